@@ -26,8 +26,8 @@ public final class MarkedCurves {
         imageDesk = new Desk();
         deeds = new Deeds();
         numbers = new Numbers();
-        tape = new Tape();
-        reader = new Reader(tape);
+        reader = new Reader();
+        tape = reader.tape;
         speller = new Speller();
         holders = new Holder[HOLDERS];
         for (int h = 0; h < HOLDERS; h++) {
@@ -209,9 +209,6 @@ public final class MarkedCurves {
         if (!Splits.isLeafCount(l) || !isSplitCount(k) || i < 0 || j < 0) {
             return BAD;
         }
-        if (i >= Splits.countTrees(l, k)) {
-            return NOT;
-        }
         int s = Splits.nth(Splits.treeAt(l, k, i), j);
         return s == NONE ? NOT : s;
     }
@@ -297,10 +294,7 @@ public final class MarkedCurves {
             return BAD;
         }
         speller.tell(desk);
-        if (i == -1) {
-            return speller.size;
-        }
-        return i < speller.size ? speller.byteAt(i) : NOT;
+        return i == -1 ? speller.size : speller.byteAt(i);
     }
 
     // ---- holders, the image
@@ -872,7 +866,7 @@ public final class MarkedCurves {
 
         /** The slot that a key has or can have, or NONE if all are others'. */
         private int slotOf(long key) {
-            int slot = (int) ((key * SCATTER) >>> SLOT_SHIFT);
+            int slot = (int) ((key * SCATTER) >>> SLOT_SHIFT) & (SLOTS - 1);
             for (int tries = 0; tries < SLOTS; tries++) {
                 if (keys[slot] == key || keys[slot] == 0) {
                     return slot;
@@ -885,7 +879,8 @@ public final class MarkedCurves {
 
     /** SPLITS and TREES: a TREE is told by the bits of its SPLITS, as Desk tells it. */
     private static final class Splits {
-        private static final int HIGHEST = 63;
+        /** No bit of a TREE is above HIGHEST, no SPLIT below LEAST. */
+        private static final int HIGHEST = 63, LEAST = 2;
 
         static boolean isLeafCount(int l) {
             return l >= FEWEST_LEAVES && l <= MOST_LEAVES;
@@ -1002,10 +997,10 @@ public final class MarkedCurves {
         }
 
         static int countTrees(int limit, int k) {
-            return countMore(limit, k, 0L, 0);
+            return countMore(limit, k, 0L, LEAST);
         }
 
-        /** How many TREES a TREE becomes by k more SPLITS, none of them below from. */
+        /** How many TREES a TREE becomes by k more SPLITS, none of them below from (an even one). */
         private static int countMore(int limit, int k, long tree, int from) {
             if (k <= 0) {
                 return 1;
@@ -1015,31 +1010,36 @@ public final class MarkedCurves {
                 return 0;
             }
             int found = 0;
-            for (int s = from; s < (1 << limit); s++) {
+            for (int s = from; s < (1 << limit); s += 2) {
                 if (isSplit(s, limit) && fits(tree, s)) {
-                    found += countMore(limit, k - 1, with(tree, s), s + 1);
+                    found += countMore(limit, k - 1, with(tree, s), s + 2);
                 }
             }
             return found;
         }
 
-        /** The i-th TREE with k SPLITS; there are more than i. */
+        /** The i-th TREE with k SPLITS; one without SPLITS if there are not as many. */
         static long treeAt(int limit, int k, int i) {
             long tree = 0;
-            int from = 0;
+            int from = LEAST;
             int ahead = i;
             for (int more = k - 1; more >= 0; more--) {
-                for (int s = from; s < (1 << limit); s++) {
+                boolean found = false;
+                for (int s = from; s < (1 << limit) && !found; s += 2) {
                     if (!isSplit(s, limit) || !fits(tree, s)) {
                         continue;
                     }
-                    int found = countMore(limit, more, with(tree, s), s + 1);
-                    if (ahead < found) {
+                    int trees = countMore(limit, more, with(tree, s), s + 2);
+                    if (ahead < trees) {
                         tree = with(tree, s);
-                        from = s + 1;
-                        break;
+                        from = s + 2;
+                        found = true;
+                    } else {
+                        ahead -= trees;
                     }
-                    ahead -= found;
+                }
+                if (!found) {
+                    return 0;
                 }
             }
             return tree;
@@ -1118,13 +1118,13 @@ public final class MarkedCurves {
         }
     }
 
-    /** Reads THE TAPE as a TEXT and keeps WHY. */
+    /** Reads THE TAPE, which it holds, as a TEXT and keeps WHY. */
     private static final class Reader {
         private static final int SORT_TEXT = 1, SORT_GENUS = 2, SORT_MARKS = 3, SORT_L = 4;
         private static final int SORT_SPLITS = 5, SORT_FORM = 6, SORT_CANNOT_BE = 7;
         private static final int LAYERS = 3, MOST_SPLITS = 3, MOST_FIGURES = 4;
 
-        private final Tape tape;
+        final Tape tape;
         private final Desk told;
         private final int[] causes;
         /** Whether there is a WHY. */
@@ -1132,8 +1132,8 @@ public final class MarkedCurves {
         private int place;
         private int cannotBe;
 
-        Reader(Tape tape) {
-            this.tape = tape;
+        Reader() {
+            tape = new Tape();
             told = new Desk();
             causes = new int[2 * LAYERS];
         }
@@ -1312,6 +1312,7 @@ public final class MarkedCurves {
             bytes = new int[MOST_BYTES];
         }
 
+        /** The byte at a place, or NOT behind the last one. */
         int byteAt(int i) {
             return i >= 0 && i < size && i < MOST_BYTES ? bytes[i] : NOT;
         }

@@ -79,26 +79,35 @@ final class DeedsTest {
         }
     }
 
+    /** Each DEED is unlike all others, so that none can stand for another. */
     private void undoOfEightAtMost() {
         check.promise(22);
         MarkedCurves x = new MarkedCurves();
-        for (int i = 0; i < 12; i++) {
-            x.genus(1 + i % 2);
+        x.mark(0);
+        for (int d = 1; d <= 12; d++) {
+            x.change(0, d);
+            check.due("count(4)", x.count(4), Math.min(8, d + 1));
         }
-        check.due("count(4)", x.count(4), 8);
         for (int left = 7; left >= 0; left--) {
             check.due("undo()", x.undo(), left);
+            check.due("of(0)", x.of(0), 4 + left);
             check.due("count(4)", x.count(4), left);
             check.due("count(5)", x.count(5), 8 - left);
         }
-        check.due("count(0)", x.count(0), 2);
         check.due("undo()", x.undo(), -5);
+        check.due("of(0)", x.of(0), 4);
         check.promise(23);
         for (int left = 7; left >= 0; left--) {
             check.due("again()", x.again(), left);
+            check.due("of(0)", x.of(0), 12 - left);
         }
         check.due("again()", x.again(), -5);
-        check.due("count(0)", x.count(0), 2);
+        check.due("of(0)", x.of(0), 12);
+        x.undo();
+        x.change(0, 0);
+        check.due("count(4)", x.count(4), 8);
+        x.undo();
+        check.due("of(0)", x.of(0), 11);
     }
 
     private void undoOfNoDeed() {

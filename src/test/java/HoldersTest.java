@@ -242,6 +242,9 @@ final class HoldersTest {
         check.due("judge of none and none", x.judge(0), -2);
         x.row(0, 20);
         check.due("judge of zeros", x.judge(0), 0);
+        x.row(0, 1);
+        x.set(0, 0, -1);
+        check.due("judge of -1 where there is no SPLIT", x.judge(0), 0);
     }
 
     private void image() {

@@ -128,7 +128,9 @@ final class LanguageTest {
         com.sun.management.ThreadMXBean bean =
             (com.sun.management.ThreadMXBean) ManagementFactory.getThreadMXBean();
         long thread = Thread.currentThread().getId();
+        // Once ahead, so that what loading and linking makes is not counted.
         bean.getThreadAllocatedBytes(thread);
+        useAll(new MarkedCurves());
         long before = bean.getThreadAllocatedBytes(thread);
         MarkedCurves x = new MarkedCurves();
         long made = bean.getThreadAllocatedBytes(thread) - before;
