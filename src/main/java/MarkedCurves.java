@@ -704,7 +704,7 @@ public final class MarkedCurves {
         static final int BASE = 1, STRING = 2, DILATON = 3;
 
         private static final int HIGHEST = 14, DEEPEST = 16, GENUS_SHIFT = 60;
-        /** Some 730 NUMBERS can be met in all; twice as many slots would only cost room. */
+        /** Some 700 NUMBERS can be met in all; twice as many slots would only cost room. */
         private static final int SLOTS = 1024, SLOT_SHIFT = 54;
         private static final long SCATTER = 0x9E3779B97F4A7C15L;
         private static final long GENUS_1 = 1L << GENUS_SHIFT, GENUS_2 = 2L << GENUS_SHIFT;
@@ -912,14 +912,14 @@ public final class MarkedCurves {
 
         /** The k-th SPLIT, rising, or NONE. */
         static int nth(long tree, int k) {
-            if (k < 0 || k >= sizeOf(tree)) {
+            if (k < 0 || k >= Long.bitCount(tree)) {
                 return NONE;
             }
             long rest = tree;
             for (int lesser = 0; lesser < k; lesser++) {
                 rest &= rest - 1;
             }
-            // As many bits are below the lowest one as its number tells.
+            // Left is the k-th bit and what is above; as many bits are below it as its number tells.
             return Long.bitCount((rest & -rest) - 1);
         }
 
@@ -1000,7 +1000,7 @@ public final class MarkedCurves {
             return countMore(limit, k, 0L, LEAST);
         }
 
-        /** How many TREES a TREE becomes by k more SPLITS, none of them below from (an even one). */
+        /** How many TREES a TREE becomes by k more SPLITS, none below from (an even number). */
         private static int countMore(int limit, int k, long tree, int from) {
             if (k <= 0) {
                 return 1;
