@@ -1302,8 +1302,8 @@ public final class MarkedCurves {
 
     /** Writes the TEXT that tells a desk. */
     private static final class Speller {
-        /** The longest TEXT has 42 bytes. */
-        private static final int MOST_BYTES = 48;
+        /** The longest TEXT: eight MARKS of two figures, SPLITS of two, three and four LEAVES. */
+        private static final int MOST_BYTES = 39;
 
         private final int[] bytes;
         int size;

@@ -6,7 +6,7 @@ public final class AllTests {
     private AllTests() {
     }
 
-    /** The argument is the path of MarkedCurves.java. */
+    /** The arguments are the paths of MarkedCurves.java and of DOC.md. */
     public static void main(String[] args) throws IOException {
         Check check = new Check();
         LanguageTest.run(check, Path.of(args[0]));
@@ -16,11 +16,24 @@ public final class AllTests {
         TextsTest.run(check);
         HoldersTest.run(check);
         check.everyPromiseWasLookedAt();
+        boundaries(check, Document.of(Path.of(args[1])));
+        ExtremesTest.run(check);
         EveryTest.run(check);
         RandomRuns.run(check);
         System.out.println(check.counts());
         if (check.failures() > 0) {
             System.exit(1);
         }
+    }
+
+    private static void boundaries(Check check, Document document) {
+        Boundaries boundaries = new Boundaries(check, document);
+        MarksEdges.run(check, boundaries);
+        TreesEdges.run(check, boundaries);
+        DeedsEdges.run(check, boundaries);
+        TextsEdges.run(check, boundaries);
+        HoldersEdges.run(check, boundaries);
+        RefusalEdges.run(check, boundaries);
+        boundaries.everyBoundaryWasLookedAt();
     }
 }

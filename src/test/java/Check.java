@@ -4,11 +4,18 @@ final class Check {
 
     private final int[] byPromise = new int[40];
     private int promise;
+    private String sentence = "";
     private int passed;
     private int failed;
 
     void promise(int number) {
         promise = number;
+        sentence = "";
+    }
+
+    /** The words of the document that the answers to come are due by. */
+    void sentence(String words) {
+        sentence = words;
     }
 
     void due(String call, long got, long want) {
@@ -20,7 +27,7 @@ final class Check {
         failed++;
         if (failed <= PRINTED) {
             System.out.println("promise " + promise + ": " + call + " answered " + got
-                + ", due is " + want);
+                + ", due is " + want + (sentence.isEmpty() ? "" : ", by: " + sentence));
         }
     }
 
@@ -36,6 +43,11 @@ final class Check {
                 System.out.println("promise " + p + " has no test");
             }
         }
+    }
+
+    /** How many answers have been looked at. */
+    int answers() {
+        return passed + failed;
     }
 
     int failures() {

@@ -1,5 +1,7 @@
 /** Promises 22 and 23: DEEDS UNDONE and DONE AGAIN. */
 final class DeedsTest {
+    static final int DEEDS = 10;
+
     private final Check check;
 
     private DeedsTest(Check check) {
@@ -35,14 +37,15 @@ final class DeedsTest {
     /** The text of GENUS, MARKS, L and THE TREE. */
     static String textOf(MarkedCurves x) {
         StringBuilder text = new StringBuilder();
-        for (int i = 0; i < x.spell(-1); i++) {
+        int bytes = x.spell(-1);
+        for (int i = 0; i < bytes; i++) {
             text.append((char) x.spell(i));
         }
         return text.toString();
     }
 
     private void undoOfEach() {
-        for (int which = 0; which < 10; which++) {
+        for (int which = 0; which < DEEDS; which++) {
             MarkedCurves x = TreesTest.with(5, 6);
             x.mark(3);
             x.mark(1);
@@ -61,7 +64,8 @@ final class DeedsTest {
         }
     }
 
-    private void deed(MarkedCurves x, int which) {
+    /** A DEED of each of the calls that can do one, on five LEAVES with the SPLIT 6 and MARKS 3 1. */
+    static void deed(MarkedCurves x, int which) {
         switch (which) {
             case 0: x.genus(2); break;
             case 1: x.mark(3); break;
