@@ -928,7 +928,8 @@ public final class MarkedCurves {
         }
 
         private static boolean goTogether(int s, int t) {
-            return (s & t) == 0 || isWithin(s, t) || isWithin(t, s);
+            int both = s & t;
+            return both == 0 || both == s || both == t;
         }
 
         /** Whether a SPLIT is not in a TREE and GOES TOGETHER with all of it. */
