@@ -6,8 +6,8 @@ public final class AllTests {
     private AllTests() {
     }
 
-    /** The arguments are the paths of MarkedCurves.java and of DOC.md. */
-    public static void main(String[] args) throws IOException {
+    /** The arguments are the paths of MarkedCurves.java, of DOC.md and of README.md. */
+    public static void main(String[] args) throws IOException, ReflectiveOperationException {
         Check check = new Check();
         LanguageTest.run(check, Path.of(args[0]));
         MarksTest.run(check);
@@ -20,6 +20,7 @@ public final class AllTests {
         ExtremesTest.run(check);
         EveryTest.run(check);
         RandomRuns.run(check);
+        ReadmeTest.run(check, Path.of(args[2]));
         System.out.println(check.counts());
         if (check.failures() > 0) {
             System.exit(1);
