@@ -1432,7 +1432,8 @@ public final class MarkedCurves {
         /** Whether the ROW tells the SPLITS of a TREE: the first place that is otherwise, or NONE. */
         int firstUnlike(long other) {
             int splits = Splits.sizeOf(other);
-            for (int i = 0; i < size || i < splits; i++) {
+            int places = Math.max(size, splits);
+            for (int i = 0; i < places; i++) {
                 if (i >= splits || !hasPlace(i) || ints[i] != Splits.nth(other, i)) {
                     return i;
                 }
